@@ -307,6 +307,7 @@ public final class PromisesTest {
         }
         endKeepsTheLevelBelow();
         endCommitsZero();
+        endHandsEveryCellDown();
     }
 
     private static void endKeepsTheLevelBelow() {
@@ -341,6 +342,20 @@ public final class PromisesTest {
         due.is("committed(0): a written 0 counts", t.committed(0), 0);
         due.is("committed(15): a written 0 counts", t.committed(15), 0);
         due.is("committed(7): not written", t.committed(7), 7);
+    }
+
+    private static void endHandsEveryCellDown() {
+        TransactionCaches t = at(1, 3);
+        for (int x = 0; x < 16; x++) {
+            t.write(1, x, 200 + x);
+        }
+        for (int level = 2; level >= 0; level--) {
+            due.is("end(1)", t.end(1), level);
+            for (int x = 0; x < 16; x++) {
+                due.is("sees(1, " + x + ") at level " + level, t.sees(1, x), 200 + x);
+                due.is("committed(" + x + ") at level " + level, t.committed(x), level == 0 ? 200 + x : 0);
+            }
+        }
     }
 
     private static void giveUp() {
