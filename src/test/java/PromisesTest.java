@@ -1,10 +1,10 @@
 /** A part for each promise of the document: ordinary inputs, the edges it names, wrong inputs. */
 public final class PromisesTest {
-    private static final int NONE = -1;
-    private static final int CONFLICT = -2;
-    private static final int[] NO_CORES = {-1, 4, 5, 16, 32, -4, Integer.MIN_VALUE, Integer.MAX_VALUE};
-    private static final int[] NO_CELLS = {-1, 16, 17, 32, 64, -16, Integer.MIN_VALUE, Integer.MAX_VALUE};
-    private static final int[] VALUES = {0, 1, -1, -2, 7, Integer.MIN_VALUE, Integer.MAX_VALUE};
+    private static final int NONE = Edges.NONE;
+    private static final int CONFLICT = Edges.CONFLICT;
+    private static final int[] NO_CORES = Edges.NO_CORES;
+    private static final int[] NO_CELLS = Edges.NO_CELLS;
+    private static final int[] VALUES = Edges.VALUES;
     private static final Due due = new Due();
 
     public static void main(String[] args) {
@@ -30,14 +30,6 @@ public final class PromisesTest {
         givenUpSeesCommitted();
         objectsStandAlone();
         due.finish();
-    }
-
-    private static TransactionCaches at(int core, int level) {
-        TransactionCaches t = new TransactionCaches();
-        for (int i = 0; i < level; i++) {
-            t.begin(core);
-        }
-        return t;
     }
 
     private static void newObject() {
@@ -87,7 +79,7 @@ public final class PromisesTest {
     private static void read() {
         due.part("promise 3");
         for (int level = 1; level <= 3; level++) {
-            TransactionCaches t = at(1, level);
+            TransactionCaches t = Edges.at(1, level);
             due.is("read(1, 0)", t.read(1, 0), 0);
             due.is("read(1, 15)", t.read(1, 15), 0);
             due.is("read(1, 15) again", t.read(1, 15), 0);
@@ -114,7 +106,7 @@ public final class PromisesTest {
 
     private static void readOutside() {
         due.part("promise 3, outside");
-        TransactionCaches t = at(1, 1);
+        TransactionCaches t = Edges.at(1, 1);
         t.write(1, 3, 4);
         due.is("read(0, 3)", t.read(0, 3), CONFLICT);
         due.is("read(0, 2)", t.read(0, 2), 0);
@@ -162,7 +154,7 @@ public final class PromisesTest {
         due.part("promise 5");
         for (int level = 1; level <= 3; level++) {
             for (int v : VALUES) {
-                TransactionCaches t = at(2, level);
+                TransactionCaches t = Edges.at(2, level);
                 due.is("write(2, 0, " + v + ")", t.write(2, 0, v), 0);
                 due.is("write(2, 15, " + v + ")", t.write(2, 15, v), 0);
                 due.is("sees(2, 15)", t.sees(2, 15), v);
@@ -183,7 +175,7 @@ public final class PromisesTest {
                 due.is("write(3, 4, 1) that both have read", t.write(3, 4, 1), CONFLICT);
             }
         }
-        TransactionCaches t = at(2, 1);
+        TransactionCaches t = Edges.at(2, 1);
         t.write(2, 5, 50);
         for (int c : NO_CORES) {
             due.is("write(" + c + ", 0, 3)", t.write(c, 0, 3), NONE);
@@ -259,7 +251,7 @@ public final class PromisesTest {
 
     private static void addInConflict() {
         due.part("promise 6, in conflict");
-        TransactionCaches t = at(0, 1);
+        TransactionCaches t = Edges.at(0, 1);
         t.begin(1);
         t.read(0, 4);
         t.write(0, 5, 50);
@@ -278,7 +270,7 @@ public final class PromisesTest {
 
     private static void end() {
         due.part("promise 7");
-        TransactionCaches t = at(3, 3);
+        TransactionCaches t = Edges.at(3, 3);
         t.read(3, 0);
         t.write(3, 1, 11);
         due.is("end(3)", t.end(3), 2);
@@ -311,7 +303,7 @@ public final class PromisesTest {
     }
 
     private static void endKeepsTheLevelBelow() {
-        TransactionCaches t = at(0, 1);
+        TransactionCaches t = Edges.at(0, 1);
         t.write(0, 3, 30);
         t.read(0, 4);
         t.begin(0);
@@ -345,7 +337,7 @@ public final class PromisesTest {
     }
 
     private static void endHandsEveryCellDown() {
-        TransactionCaches t = at(1, 3);
+        TransactionCaches t = Edges.at(1, 3);
         for (int x = 0; x < 16; x++) {
             t.write(1, x, 200 + x);
         }
@@ -423,7 +415,7 @@ public final class PromisesTest {
                 due.is("writtenBy after begin", t.writtenBy(c), 0);
             }
         }
-        TransactionCaches t = at(0, 2);
+        TransactionCaches t = Edges.at(0, 2);
         for (int c : NO_CORES) {
             due.is("giveAllUp(" + c + ")", t.giveAllUp(c), NONE);
         }
@@ -470,7 +462,7 @@ public final class PromisesTest {
 
     private static void readBy() {
         due.part("promise 12");
-        TransactionCaches t = at(2, 1);
+        TransactionCaches t = Edges.at(2, 1);
         for (int x = 0; x < 16; x++) {
             if (x == 6 || x == 11) {
                 t.begin(2);
@@ -491,7 +483,7 @@ public final class PromisesTest {
 
     private static void writtenBy() {
         due.part("promise 13");
-        TransactionCaches t = at(1, 1);
+        TransactionCaches t = Edges.at(1, 1);
         for (int x = 0; x < 16; x++) {
             if (x == 6 || x == 11) {
                 t.begin(1);
@@ -512,7 +504,7 @@ public final class PromisesTest {
 
     private static void rivals() {
         due.part("promise 14");
-        TransactionCaches t = at(0, 3);
+        TransactionCaches t = Edges.at(0, 3);
         t.begin(1);
         t.begin(3);
         t.read(0, 2);
@@ -530,7 +522,7 @@ public final class PromisesTest {
             due.is("rivals(" + c + ", 0, 1)", t.rivals(c, 0, 1), c == 3 ? 0 : 8);
             due.is("rivals(" + c + ", 15, 1): nobody", t.rivals(c, 15, 1), 0);
         }
-        for (int what : new int[] {-1, 2, 3, Integer.MIN_VALUE, Integer.MAX_VALUE}) {
+        for (int what : Edges.NO_WHATS) {
             due.is("rivals(2, 2, " + what + ")", t.rivals(2, 2, what), 0);
             due.is("rivals(2, 9, " + what + ")", t.rivals(2, 9, what), 0);
         }
@@ -631,7 +623,7 @@ public final class PromisesTest {
 
     private static void objectsStandAlone() {
         due.part("promise 1, two objects");
-        TransactionCaches one = at(0, 1);
+        TransactionCaches one = Edges.at(0, 1);
         one.write(0, 1, 5);
         one.write(1, 2, 5);
         TransactionCaches two = new TransactionCaches();
