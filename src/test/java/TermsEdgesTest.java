@@ -20,6 +20,7 @@ public final class TermsEdgesTest {
         giveUpForgetsReadAndWritten();
         giveUpLeavesTheLevelsBelow();
         readAndWrittenByAtAnyLevel();
+        readAndWrittenByTwice();
         readAndWrittenByOnlyInTheTransaction();
         readingInConflict();
         writingInConflict();
@@ -360,6 +361,31 @@ public final class TermsEdgesTest {
                 u.write(x % 4, x, 0);
                 due.is("readBy: " + x + " written", u.readBy(x % 4), 0);
                 due.is("writtenBy: " + x + " written", u.writtenBy(x % 4), 1 << x);
+            }
+        }
+    }
+
+    private static void readAndWrittenByTwice() {
+        due.part("A cell is READ BY a core (WRITTEN BY it) ... at any level: also when twice, at one level or at two");
+        for (int level = 1; level <= 3; level++) {
+            TransactionCaches t = Edges.at(0, level);
+            for (int times = 1; times <= 2; times++) {
+                t.read(0, 5);
+                t.write(0, 6, times);
+                due.is("readBy(0) at one level, time " + times, t.readBy(0), 32);
+                due.is("writtenBy(0) at one level, time " + times, t.writtenBy(0), 64);
+            }
+            for (int higher = level + 1; higher <= 3; higher++) {
+                t.begin(0);
+                t.read(0, 5);
+                t.write(0, 6, 2 * higher);
+                due.is("readBy(0) at levels up to " + higher, t.readBy(0), 32);
+                due.is("writtenBy(0) at levels up to " + higher, t.writtenBy(0), 64);
+            }
+            for (int left = 2; left >= 1; left--) {
+                due.is("end(0)", t.end(0), left);
+                due.is("readBy(0) after the end of a level", t.readBy(0), 32);
+                due.is("writtenBy(0) after the end of a level", t.writtenBy(0), 64);
             }
         }
     }
